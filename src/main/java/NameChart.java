@@ -1056,7 +1056,7 @@ public final class NameChart {
         private void settle(Chart chart, int n) {
             int least = LAST_ZOOM + 1;
             int found = NONE;
-            for (int way = 0; way < chart.waysOf(n); way++) {
+            for (int way = 0; way < chart.waysOf(n) && least > 0; way++) {
                 int zoom = LAST_ZOOM + 1;
                 while (zoom > 0 && fits(chart, n, way, zoom - 1)) {
                     zoom--;

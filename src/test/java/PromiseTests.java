@@ -16,40 +16,67 @@ public final class PromiseTests {
     }
 
     public static void main(String[] args) {
-        newObject(promise = 1);
-        name(promise = 2);
-        dot(promise = 3);
-        move(promise = 4);
-        weigh(promise = 5);
-        size(promise = 6);
-        about(promise = 7);
-        isOf(promise = 8);
-        way(promise = 9);
-        openWay(promise = 9);
-        clash(promise = 10);
-        clashOfLines(promise = 10);
-        clashAtZooms(promise = 10);
-        clashes(promise = 11);
-        parts(promise = 12);
-        set(promise = 13);
-        free(promise = 14);
-        chosen(promise = 15);
-        check(promise = 16);
-        worth(promise = 17);
-        best(promise = 18);
-        bestOfEqualOnes(promise = 18);
-        bestLargeOrNone(promise = 18);
-        quick(promise = 19);
-        why(promise = 20);
-        slack(promise = 21);
-        steady(promise = 22);
-        there(promise = 23);
-        at(promise = 24);
-        find(promise = 25);
-        undo(promise = 26);
-        undoOfEachChange(promise = 26);
-        refusedCallsChangeNothing(promise = 26);
-        count(promise = 27);
+        promise = 1;
+        newObject();
+        promise = 2;
+        name();
+        promise = 3;
+        dot();
+        promise = 4;
+        move();
+        promise = 5;
+        weigh();
+        promise = 6;
+        size();
+        promise = 7;
+        about();
+        promise = 8;
+        isOf();
+        promise = 9;
+        way();
+        openWay();
+        promise = 10;
+        clash();
+        clashOfLines();
+        clashAtZooms();
+        promise = 11;
+        clashes();
+        promise = 12;
+        parts();
+        promise = 13;
+        set();
+        promise = 14;
+        free();
+        promise = 15;
+        chosen();
+        promise = 16;
+        check();
+        promise = 17;
+        worth();
+        promise = 18;
+        best();
+        bestOfEqualOnes();
+        bestLargeOrNone();
+        promise = 19;
+        quick();
+        promise = 20;
+        why();
+        promise = 21;
+        slack();
+        promise = 22;
+        steady();
+        promise = 23;
+        there();
+        promise = 24;
+        at();
+        promise = 25;
+        find();
+        promise = 26;
+        undo();
+        undoOfEachChange();
+        refusedCallsChangeNothing();
+        promise = 27;
+        count();
         System.out.println(asked + " answers, " + wrong + " of them wrong");
         if (wrong != 0) {
             System.exit(1);
@@ -76,7 +103,7 @@ public final class PromiseTests {
         return c;
     }
 
-    private static void newObject(int p) {
+    private static void newObject() {
         NameChart c = new NameChart();
         for (int what = 0; what <= 5; what++) {
             due("count(" + what + ")", c.count(what), 0);
@@ -93,7 +120,7 @@ public final class PromiseTests {
         due("LARGE", NameChart.LARGE, LARGE);
     }
 
-    private static void name(int p) {
+    private static void name() {
         NameChart c = new NameChart();
         due("name(0, 0, 0)", c.name(0, 0, 0), 0);
         due("name(3, 1000, 1000)", c.name(3, 1000, 1000), 1);
@@ -116,7 +143,7 @@ public final class PromiseTests {
         due("count(0)", c.count(0), 24);
     }
 
-    private static void dot(int p) {
+    private static void dot() {
         NameChart c = new NameChart();
         int[][] bad = {{-1, 5}, {1001, 5}, {5, -1}, {5, 1001}, {LOW, 5}, {5, HIGH}};
         for (int[] b : bad) {
@@ -133,7 +160,7 @@ public final class PromiseTests {
         due("count(1)", c.count(1), 20);
     }
 
-    private static void move(int p) {
+    private static void move() {
         NameChart c = chart(0, 500, 500, 700, 700);
         c.set(0, 3);
         due("move(0, 0, 1000)", c.move(0, 0, 1000), 0);
@@ -150,7 +177,7 @@ public final class PromiseTests {
         }
     }
 
-    private static void weigh(int p) {
+    private static void weigh() {
         NameChart c = chart(0, 500, 500, 700, 700);
         due("weigh(0, 1)", c.weigh(0, 1), 100);
         due("weigh(0, 1000)", c.weigh(0, 1000), 1);
@@ -164,7 +191,7 @@ public final class PromiseTests {
         due("weight after wrong ones", c.about(0, 5), 1000);
     }
 
-    private static void size(int p) {
+    private static void size() {
         NameChart c = chart(0, 500, 500);
         due("size(0, 1, 1)", c.size(0, 1, 1), 0);
         due("size(0, 300, 80)", c.size(0, 300, 80), 0);
@@ -177,7 +204,7 @@ public final class PromiseTests {
         due("width after wrong ones", c.about(0, 3), 300);
     }
 
-    private static void about(int p) {
+    private static void about() {
         NameChart c = chart(1, 500, 400);
         c.name(0, 0, 0);
         c.size(0, 31, 7);
@@ -199,7 +226,7 @@ public final class PromiseTests {
         due("open ways: 0, 6, 8, 12, 14 cover the other's place", c.about(0, 7), 11);
     }
 
-    private static void isOf(int p) {
+    private static void isOf() {
         NameChart c = new NameChart();
         int[][] want = {{1, 0, 0, 0}, {1, 1, 0, 0}, {1, 0, 1, 0}, {1, 0, 1, 1}};
         for (int kind = 0; kind < 4; kind++) {
@@ -220,7 +247,7 @@ public final class PromiseTests {
         }
     }
 
-    private static void way(int p) {
+    private static void way() {
         NameChart c = chart(0, 500, 400);
         c.size(0, 31, 7);
         int[][] near = {{502, 391}, {467, 391}, {467, 402}, {502, 402}, {502, 397}, {467, 397}, {485, 391}, {485, 402}};
@@ -254,7 +281,7 @@ public final class PromiseTests {
         }
     }
 
-    private static void openWay(int p) {
+    private static void openWay() {
         NameChart c = chart(0, 22, 10);
         due("sides on the chart's sides", c.way(0, 1, 0, 5), 1);
         c.move(0, 21, 10);
@@ -290,7 +317,7 @@ public final class PromiseTests {
         due("a name at the same place", d.way(0, 3, 0, 5), 1);
     }
 
-    private static void clash(int p) {
+    private static void clash() {
         NameChart c = chart(0, 500, 500, 520, 500);
         due("boxes side by side", c.clash(0, 0, 1, 0, 0), 0);
         c.move(1, 519, 500);
@@ -321,7 +348,7 @@ public final class PromiseTests {
         }
     }
 
-    private static void clashOfLines(int p) {
+    private static void clashOfLines() {
         // Way 12 at (500, 500): the box 540 .. 560, 496 .. 504, the line to (550, 500).
         NameChart c = chart(2, 500, 500, 500, 500);
         due("lines from one place", c.clash(0, 12, 1, 13, 0), 1);
@@ -367,7 +394,7 @@ public final class PromiseTests {
         due("a box with its corner (509, 490) above the diagonal", c.clash(0, 8, 1, 3, 0), 1);
     }
 
-    private static void clashAtZooms(int p) {
+    private static void clashAtZooms() {
         NameChart c = chart(2, 500, 500, 510, 500);
         int[] near = {1, 0, 0, 0, 0, 0, 0};
         for (int zoom = 0; zoom <= 6; zoom++) {
@@ -379,7 +406,7 @@ public final class PromiseTests {
         }
     }
 
-    private static void clashes(int p) {
+    private static void clashes() {
         NameChart c = chart(0, 500, 500);
         due("clashes(0, 0) alone", c.clashes(0, 0), 0);
         c.name(0, 500, 500);
@@ -398,7 +425,7 @@ public final class PromiseTests {
         due("clashes(-1, 0)", c.clashes(-1, 0), BAD);
     }
 
-    private static void parts(int p) {
+    private static void parts() {
         NameChart c = new NameChart();
         due("parts()", c.parts(), 0);
         c.name(0, 100, 100);
@@ -432,7 +459,7 @@ public final class PromiseTests {
         due("so it is a part by itself", e.parts(), 2);
     }
 
-    private static void set(int p) {
+    private static void set() {
         NameChart c = chart(0, 500, 500, 500, 500);
         c.name(2, 0, 0);
         due("set(0, 7)", c.set(0, 7), NONE);
@@ -448,7 +475,7 @@ public final class PromiseTests {
         }
     }
 
-    private static void free(int p) {
+    private static void free() {
         NameChart c = chart(2, 500, 500);
         due("free(0), left", c.free(0), NO);
         c.set(0, 11);
@@ -461,7 +488,7 @@ public final class PromiseTests {
         due("free(-1)", c.free(-1), BAD);
     }
 
-    private static void chosen(int p) {
+    private static void chosen() {
         NameChart c = chart(0, 500, 500, 600, 600);
         due("chosen(0)", c.chosen(0), NONE);
         c.set(1, 5);
@@ -472,7 +499,7 @@ public final class PromiseTests {
         due("chosen(LOW)", c.chosen(LOW), BAD);
     }
 
-    private static void check(int p) {
+    private static void check() {
         NameChart c = new NameChart();
         due("check() of nothing", c.check(), 0);
         c.name(3, 500, 500);
@@ -502,7 +529,7 @@ public final class PromiseTests {
         due("a clash ahead of a must", c.check(), 203);
     }
 
-    private static void worth(int p) {
+    private static void worth() {
         NameChart c = new NameChart();
         due("worth() of nothing", c.worth(), 0);
         c.name(0, 500, 500);
@@ -528,7 +555,7 @@ public final class PromiseTests {
         }
     }
 
-    private static void best(int p) {
+    private static void best() {
         bestIs("nothing", new NameChart(), 0);
         bestIs("one", chart(0, 500, 500), 20000, 0);
         NameChart corner = chart(0, 0, 0);
@@ -572,7 +599,7 @@ public final class PromiseTests {
         due("undone", kept.chosen(0), 5);
     }
 
-    private static void bestOfEqualOnes(int p) {
+    private static void bestOfEqualOnes() {
         // Either takes way 0 and the other way 1, at one worth: name 0 has the lesser.
         bestIs("two on one place", chart(0, 500, 500, 500, 500), 39500, 0, 1);
         // Here only one can be set, at one worth: left is behind all.
@@ -583,7 +610,7 @@ public final class PromiseTests {
         bestIs("two parts", parts, 79000, 0, 0, 1, 1);
     }
 
-    private static void bestLargeOrNone(int p) {
+    private static void bestLargeOrNone() {
         NameChart c = chart(0, 100, 100, 103, 100, 106, 100, 109, 100, 112, 100, 115, 100, 118, 100);
         due("seven", c.count(5), 7);
         due("seven in a part are not large", c.best() > 0 ? 1 : 0, 1);
@@ -618,7 +645,7 @@ public final class PromiseTests {
         }
     }
 
-    private static void quick(int p) {
+    private static void quick() {
         quickIs("nothing", new NameChart(), 0);
         NameChart heap = chart(0, 500, 500, 500, 500, 500, 500, 500, 500, 500, 500);
         quickIs("of one weight by their numbers", heap, 1, 0, 1, 2, 3, NONE);
@@ -648,7 +675,7 @@ public final class PromiseTests {
         quickIs("what was in hand does not count", old, 0, 0, 1);
     }
 
-    private static void why(int p) {
+    private static void why() {
         NameChart c = chart(2, 500, 500, 500, 500, 500, 500);
         due("why(0, 0), nothing set", c.why(0, 0), NONE);
         c.set(2, 0);
@@ -669,7 +696,7 @@ public final class PromiseTests {
         due("why(0, 8), by its line through the other", c.why(0, 8), 2);
     }
 
-    private static void slack(int p) {
+    private static void slack() {
         NameChart c = chart(0, 500, 500, 500, 500, 900, 900);
         due("slack(), all left", c.slack(), 0);
         c.set(0, 0);
@@ -699,7 +726,7 @@ public final class PromiseTests {
         due(what + ": steady(" + n + ", 1)", c.steady(n, 1), way);
     }
 
-    private static void steady(int p) {
+    private static void steady() {
         NameChart c = chart(0, 500, 500);
         steadyIs("one", c, 0, 0, 0);
         c.move(0, 0, 0);
@@ -743,7 +770,7 @@ public final class PromiseTests {
         }
     }
 
-    private static void there(int p) {
+    private static void there() {
         NameChart c = new NameChart();
         due("there(0) of nothing", c.there(0), 0);
         NameChart heap = chart(0, 500, 500, 500, 500, 500, 500, 500, 500, 500, 500);
@@ -760,7 +787,7 @@ public final class PromiseTests {
         due("there(HIGH)", heap.there(HIGH), BAD);
     }
 
-    private static void at(int p) {
+    private static void at() {
         NameChart c = chart(0, 500, 500, 500, 500);
         due("at(510, 495), all left", c.at(510, 495), NONE);
         c.set(1, 0);
@@ -785,7 +812,7 @@ public final class PromiseTests {
         due("at(1000, 1000)", c.at(1000, 1000), NONE);
     }
 
-    private static void find(int p) {
+    private static void find() {
         NameChart c = chart(0, 500, 500, 100, 100, 520, 500, 530, 500);
         due("find() of the whole chart, all left", c.find(0, 0, 1000, 1000, 0), NONE);
         c.set(0, 0);
@@ -816,7 +843,7 @@ public final class PromiseTests {
         }
     }
 
-    private static void undo(int p) {
+    private static void undo() {
         NameChart c = new NameChart();
         due("undo() of nothing", c.undo(), NO);
         c.name(0, 500, 500);
@@ -842,7 +869,7 @@ public final class PromiseTests {
         due("chosen(0)", c.chosen(0), 1);
     }
 
-    private static void undoOfEachChange(int p) {
+    private static void undoOfEachChange() {
         NameChart c = chart(1, 500, 500, 500, 500);
         c.set(0, 5);
         c.move(0, 7, 9);
@@ -882,7 +909,7 @@ public final class PromiseTests {
         due("steady undone", c.steady(1, 1), 1);
     }
 
-    private static void refusedCallsChangeNothing(int p) {
+    private static void refusedCallsChangeNothing() {
         NameChart c = chart(0, 500, 500);
         int kept = c.count(3);
         c.name(4, 0, 0);
@@ -907,7 +934,7 @@ public final class PromiseTests {
         due("the 24th is gone", c.count(0), 23);
     }
 
-    private static void count(int p) {
+    private static void count() {
         NameChart c = chart(3, 500, 500, 510, 500, 900, 900);
         c.name(2, 100, 100);
         c.dot(1, 1);
