@@ -907,28 +907,29 @@ public final class NameChart {
             int usable = bitsOf(i, openFront, openBack);
             for (int way = 0; way < ALL_WAYS; way++) {
                 int rank = chart.rankOf(member[i], way);
-                if ((usable >> rank & 1) == 1 && canReach(i, rank, worth)) {
-                    restrict(i, i * OPTIONS + rank, 1 << rank);
+                if ((usable >> rank & 1) == 1 && fixIfReaching(i, rank, worth)) {
                     return way;
                 }
             }
-            restrict(i, i * OPTIONS + ALL_WAYS, 0);
+            openFront &= ~inFront(i, ALL_BITS);
+            openBack &= ~inBack(i, ALL_BITS);
             return NONE;
         }
 
-        private boolean canReach(int i, int rank, int worth) {
+        /** If so, the member keeps this option alone, and the others lose what it bans. */
+        private boolean fixIfReaching(int i, int rank, int worth) {
             int at = i * OPTIONS + rank;
+            long front = openFront & ~banFront[at] | inFront(i, 1 << rank);
+            long back = openBack & ~banBack[at] | inBack(i, 1 << rank);
             most = worth - 1;
             goal = worth;
-            descend(0, openFront & ~banFront[at] | inFront(i, 1 << rank),
-                openBack & ~banBack[at] | inBack(i, 1 << rank), 0);
-            return most >= worth;
-        }
-
-        /** The member keeps no bits but these, the others lose what the option bans. */
-        private void restrict(int i, int at, int bits) {
-            openFront = openFront & ~banFront[at] | inFront(i, bits);
-            openBack = openBack & ~banBack[at] | inBack(i, bits);
+            descend(0, front, back, 0);
+            if (most < worth) {
+                return false;
+            }
+            openFront = front;
+            openBack = back;
+            return true;
         }
 
         private void gatherOptions(Chart chart, Layout layout, int i) {

@@ -38,6 +38,7 @@ public final class PromiseTests {
         promise = 10;
         clash();
         clashOfLines();
+        clashOfCornerAndLine();
         clashAtZooms();
         promise = 11;
         clashes();
@@ -385,13 +386,30 @@ public final class PromiseTests {
         due("a box from 500 on, where the line has come below 500", c.clash(0, 12, 1, 2, 0), 1);
         c.size(0, 20, 8);
         due("a box from 500 on, where the line stays at 500", c.clash(0, 12, 1, 2, 0), 0);
-        // The line of way 8 at (500, 500), 20 wide, 20 high: to the middle (550, 450), a diagonal.
-        c.size(0, 20, 20);
-        c.size(1, 10, 10);
-        c.move(1, 508, 488);
-        due("a box with its corner (510, 490) on the diagonal, below it", c.clash(0, 8, 1, 3, 0), 0);
-        c.move(1, 507, 488);
-        due("a box with its corner (509, 490) above the diagonal", c.clash(0, 8, 1, 3, 0), 1);
+    }
+
+    /** The ways 8 .. 11 of a name at (500, 500), 20 wide and high, have diagonals for lines, 50 long each way. */
+    private static void clashOfCornerAndLine() {
+        int[] across = {1, -1, -1, 1};
+        int[] down = {-1, -1, 1, 1};
+        for (int k = 0; k < 4; k++) {
+            for (int way = 0; way < 4; way++) {
+                NameChart c = chart(2, 500, 500, 0, 0);
+                c.size(0, 20, 20);
+                c.size(1, 10, 10);
+                int x = 500 + 10 * across[k] - 2 * across[way];
+                int y = 500 + 10 * down[k] - 2 * down[way];
+                boolean beside = across[k] * across[way] != down[k] * down[way];
+                c.move(1, x, y);
+                due("the line " + (8 + k) + " and a corner on it of the box " + way, c.clash(0, 8 + k, 1, way, 0),
+                    beside ? 0 : 1);
+                c.move(1, x - across[way], y);
+                due("the line " + (8 + k) + " and a corner across it of the box " + way, c.clash(0, 8 + k, 1, way, 0), 1);
+                c.move(1, x + across[way], y);
+                due("the line " + (8 + k) + " and a corner short of it of the box " + way, c.clash(0, 8 + k, 1, way, 0),
+                    beside ? 0 : 1);
+            }
+        }
     }
 
     private static void clashAtZooms() {
