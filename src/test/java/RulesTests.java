@@ -142,12 +142,12 @@ public final class RulesTests {
         int sum = 0;
         for (int k = 0; k < charts.length; k++) {
             long before = bean.getThreadAllocatedBytes(self);
-            for (int i = 0; i < 19; i++) {
+            for (int i = 0; i < 18; i++) {
                 sum += everyCall(charts[k], i);
             }
             used[k] = bean.getThreadAllocatedBytes(self) - before;
         }
-        // The reading itself makes an object or two; 19 rounds of all calls would make far more.
+        // The reading itself makes an object or two; 18 rounds of all calls would make far more.
         fault(used[charts.length - 1] > 500, "calls made " + Arrays.toString(used) + " bytes (" + sum + ")");
     }
 }
