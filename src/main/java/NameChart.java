@@ -106,7 +106,9 @@ public final class NameChart {
             case 5: return chart.weight[name];
             case 6: return chart.waysOf(name);
             case 7: return openWays(name);
-            case 8: return partOf(name);
+            case 8:
+                splitUp();
+                return split.of[name];
             default: return BAD;
         }
     }
@@ -338,7 +340,9 @@ public final class NameChart {
             case 2: return leftInHand();
             case 3: return history.held;
             case 4: return musts();
-            case 5: return greatestPart();
+            case 5:
+                splitUp();
+                return split.greatest;
             default: return BAD;
         }
     }
@@ -389,16 +393,6 @@ public final class NameChart {
     private int openWays(int n) {
         layOut();
         return Integer.bitCount(layout.open[n]);
-    }
-
-    private int partOf(int n) {
-        splitUp();
-        return split.of[n];
-    }
-
-    private int greatestPart() {
-        splitUp();
-        return split.greatest;
     }
 
     private int musts() {
@@ -853,7 +847,8 @@ public final class NameChart {
         private static final int OPTIONS = ALL_WAYS + 1;
         /** What can still be taken has 16 bits a member, and so four members in a long. */
         private static final int IN_FRONT = 4, ALL_BITS = 0xFFFF;
-        private static final int HOPELESS = -1000000000;
+        /** Below and above every worth. */
+        private static final int HOPELESS = -1000000000, ENDLESS = 1000000000;
 
         private final int[] member = new int[MOST_IN_PART];
         private final boolean[] must = new boolean[MOST_IN_PART];
@@ -887,7 +882,7 @@ public final class NameChart {
         /** NONE, if there is no right setting. */
         int mostWorth() {
             most = NONE;
-            goal = Integer.MAX_VALUE;
+            goal = ENDLESS;
             descend(0, openFront, openBack, 0);
             return most;
         }

@@ -78,6 +78,8 @@ public final class PromiseTests {
         refusedCallsChangeNothing();
         promise = 27;
         count();
+        promise = 0;
+        exampleOfReadme();
         System.out.println(asked + " answers, " + wrong + " of them wrong");
         if (wrong != 0) {
             System.exit(1);
@@ -968,5 +970,20 @@ public final class PromiseTests {
         due("count(-1)", c.count(-1), BAD);
         due("count(6)", c.count(6), BAD);
         due("count(LOW)", c.count(LOW), BAD);
+    }
+
+    private static void exampleOfReadme() {
+        NameChart chart = new NameChart();
+        int a = chart.name(0, 100, 100);
+        due("README: a", a, 0);
+        int b = chart.name(3, 110, 100);
+        due("README: b", b, 1);
+        chart.size(a, 30, 8);
+        chart.dot(300, 300);
+        due("README: worth", chart.best(), 39500);
+        int way = chart.chosen(a);
+        due("README: way", way, 1);
+        due("README: left", chart.way(a, way, 0, 0), 68);
+        due("README: kept", chart.undo(), 4);
     }
 }

